@@ -520,7 +520,7 @@ public final class LaneOrder {
         }
 
         private boolean fitsRules(int i, int rulesAt) {
-            if (i - rulesAt >= MOST_RULES || codes[i] < '0' || codes[i] > '3') {
+            if (codes[i] < '0' || codes[i] > '3') {
                 return false;
             }
             for (int j = rulesAt; j < i; j++) {
@@ -797,7 +797,6 @@ public final class LaneOrder {
             for (int box = 0; box < sheet.size; box++) {
                 figure[box] = sheet.kind[box] == CAPTION ? nearestFigure(box) : NONE;
                 depth[box] = NONE;
-                leaf[box] = NONE;
                 if (figure[box] == NONE) {
                     row[rowSize] = box;
                     rowSize++;

@@ -322,6 +322,7 @@ public final class PromiseTest {
         check.same("a heap", tell(read(HEAP), 3, 0, 5, 6, 7), "4 3 -1 0");
         due("distances are added", read("f0415,f7788,c4455;0").box(2, 6), 0);
         due("the nearer one", read("f0011,f5566,c3344;0").box(2, 6), 1);
+        due("one that lies over is nearer than one beside", read("f0011,f2233,c2033;0").box(2, 6), 1);
         due("a touch is no distance", read("f0011,f6677,c5566;0").box(2, 6), 1);
         due("box(4)", x.box(4, 0), UNKNOWN);
         due("box, what 10", x.box(0, 10), OUTSIDE);
@@ -376,6 +377,7 @@ public final class PromiseTest {
         check.same("heap by 3", order(read("b3099,b2199,b1199,b0099;3")), "3210");
         check.same("heap by 2, then 3", order(read("b3099,b2199,b1199,b0099;23")), "3021");
         check.same("figures", order(read(FIGURES)), "02341");
+        check.same("captions by their numbers", order(read("c0011,b2233,c8899,f4455;0")), "1302");
         check.same("covered", order(read(COVERED)), "14032");
         check.same("level ahead of upright", order(read("b4077,b0277,b0899;3")), "102");
         check.same("right column first by number, read last", order(read("b6082,b0022;2")), "10");
@@ -445,6 +447,9 @@ public final class PromiseTest {
         due("by rule 2", x.why(0, 1), 2);
         due("by number", x.why(1, 2), 14);
         due("by number", x.why(3, 0), 4);
+        x.rules(4123);
+        x.rules(4);
+        due("rules that are gone tell nothing", x.why(0, 2), 4);
         LaneOrder y = read(COLUMNS);
         due("by a cut", y.why(3, 1), 15);
         LaneOrder z = read(FIGURES);
@@ -507,9 +512,15 @@ public final class PromiseTest {
             due("take", x.take(wrong), UNKNOWN);
         }
         due("boxes", x.count(0), 1);
-        LaneOrder y = read("f0011,c2233;0");
-        due("its figure is taken", y.take(0), 1);
-        due("bound", y.count(4), 0);
+        for (String page : new String[] {"f0011,c2233;0", "c0011,f2233;0"}) {
+            LaneOrder y = read(page);
+            due("its figure is taken", y.take(page.indexOf('f') / 6), 1);
+            due("bound", y.count(4), 0);
+        }
+        LaneOrder z = read(COVERED);
+        z.take(4);
+        check.same("the order then", order(z), "0213");
+        due("the cuts then", z.count(1), 3);
     }
 
     private static void promise14() {
@@ -521,6 +532,12 @@ public final class PromiseTest {
         due("move, far", x.move(3, 9, 9), 3);
         check.same("where it is", tell(x, 3, 1, 2, 3, 4), "15 12 17 13");
         due("move, not at all", x.move(3, 0, 0), 3);
+        due("move, far back", x.move(3, -9, -9), 3);
+        check.same("where it is", tell(x, 3, 1, 2, 3, 4), "6 3 8 4");
+        due("move to the edges", x.move(3, -6, -3), 2);
+        check.same("where it is", tell(x, 3, 1, 2, 3, 4), "0 0 2 1");
+        due("move, back", x.move(3, 6, 3), 3);
+        due("move, far", x.move(3, 9, 9), 3);
         due("left of 0", x.move(0, -1, 0), OUTSIDE);
         due("above 0", x.move(0, 0, -1), OUTSIDE);
         due("too far right", x.move(0, 10, 0), OUTSIDE);
@@ -623,6 +640,9 @@ public final class PromiseTest {
         y.put(0, 498);
         due("just 1000", y.scale(2), OUTSIDE);
         due("it is as it was", y.box(1, 4), 500);
+        y.take(1);
+        due("the greatest one is taken", y.scale(5), 5);
+        due("the first one is the greatest", read("b0068,b0011;0").scale(2), 16);
     }
 
     private static void promise18() {
@@ -649,6 +669,8 @@ public final class PromiseTest {
         due("one above the other, by number", read("b0022,b0122;2").calm(), 8);
         due("one above the other", read("b0122,b0022;2").calm(), 6);
         due("one left of the other", read("b1022,b0022;3").calm(), 6);
+        due("one left of the other by 2", read("b2044,b0044;3").calm(), 8);
+        due("one above the other by 2", read("b0244,b0044;2").calm(), 8);
         LaneOrder x = read("b0122,b0022;2");
         x.calm();
         check.same("as it was", tell(x, 0, 1, 2, 3, 4) + " " + tell(x, 1, 1, 2, 3, 4), "0 1 2 2 0 0 2 2");
@@ -665,6 +687,7 @@ public final class PromiseTest {
         due("3, then 2", x.idle(), 4);
         x.rules(23);
         due("2, then 3", x.idle(), 8);
+        due("both matter", read("b3099,b2199,b1199,b0099;23").idle(), 0);
         due("all idle", read("b0011,b5566;0123").idle(), 15);
         due("only rules that are there", read("b0011,b5566;31").idle(), 10);
         due("how many rules", x.count(3), 2);
@@ -730,6 +753,8 @@ public final class PromiseTest {
         long before = x.digest();
         due("cuts", x.drawn(10, 1061, 0), 20);
         due("by number", x.drawn(6, 5, 1), 1);
+        due("by number, by left, too", x.drawn(20, 6, 1), 0);
+        due("by number, by left, too", x.drawn(20, 11, 1), 1);
         due("the seed then", x.drawn(3, 1062, 2), 60625690);
         due("the same again", x.drawn(3, 1062, 2), 60625690);
         due("the seed of two, one by one", x.drawn(1, x.drawn(1, 0, 2), 2), x.drawn(2, 0, 2));
