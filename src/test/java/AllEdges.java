@@ -24,6 +24,16 @@ final class AllEdges {
     }
 
     private void promise26() {
+        edges.sentence(0, "An IMAGE keeps the BOXES, the RULES, SEEN.");
+        LaneOrder kept = Calls.read("t0044,b1144,n8899;03");
+        edges.run(kept, "see(0, 0, true)=1", "see(2, 1, true)=2", "image()=3");
+        edges.run(kept, "move(2, -7, -7)=0", "rules(1)=1", "change(0, 2)=1", "forget()=2", "see(1, 3, true)=1", "take(0)=2");
+        for (int times = 0; times < 2; times++) {
+            edges.run(kept, "restore()=3", "count(1)=1", "count(2)=2", "count(3)=2", "count(5)=2", "cut(0, 2)=4", "order(0)=0", "order(2)=2");
+            edges.run(kept, "box(0, 0)=1", "box(2, 1)=8", "box(0, 8)=2", "box(1, 8)=31", "box(2, 8)=20", "why(0, 1)=0", "idle()=9");
+            // What goes on is not the image itself.
+            edges.run(kept, "change(0, 2)=1", "see(1, 0, true)=3", "rules(1)=1");
+        }
         edges.sentence(26, "STATE: none was kept, or there is another PAGE since.");
         edges.refused(new State[] {State.NEW, State.TYPING, State.LONE}, "STATE", "restore()");
         edges.run(Calls.make(Calls.read("b0011;0"), "image()"), "restore()=1", "restore()=1");

@@ -86,6 +86,10 @@ final class DoneEdges {
     }
 
     private void promise15() {
+        edges.sentence(15, "A BOX is of another KIND: of which it was.");
+        edges.page("n0044,t1144,b0144;0", "order(0)=1", "change(1, 0)=1", "order(0)=0", "change(2, 1)=0", "order(0)=2", "change(2, 1)=1");
+        LaneOrder x = Calls.read("f0011,c2233,b4455;0");
+        edges.run(x, "box(1, 6)=0", "change(0, 0)=3", "box(1, 6)=NONE", "count(4)=0", "count(1)=2", "change(2, 3)=0", "box(1, 6)=2", "order(2)=1");
         edges.sentence(15, "UNKNOWN;");
         edges.refused(State.values(), "UNKNOWN", "change(-1, 0)", "change(8, 0)", "change(MIN, 0)", "change(MAX, 4)", "change(8, 5)");
         edges.refused(State.WITHOUT_PAGE, "UNKNOWN", "change(0, 0)");
@@ -119,6 +123,8 @@ final class DoneEdges {
     }
 
     private void promise17() {
+        edges.sentence(17, "All numbers of all BOXES times so much: the greatest number then.");
+        edges.page("b0011,b2233;0", "scale(5)=15", "cut(0, 1) cut(0, 2) lane(1, 1) lane(1, 2)=5", "box(0, 3)=5", "box(1, 1)=10");
         edges.sentence(17, "OUTSIDE: by (1 to 5)");
         edges.page("b1234;0", "scale(1)=4", "box(0, 1)=1", "scale(5)=20", "box(0, 1)=5", "box(0, 2)=10", "box(0, 3)=15", "box(0, 4)=20");
         edges.refused(State.values(), "OUTSIDE", "scale(0)", "scale(6)", "scale(-1)", "scale(-5)", "scale(MIN)", "scale(MAX)");
@@ -126,6 +132,8 @@ final class DoneEdges {
         edges.run(Calls.make(Calls.read("b0011;0"), "put(331, 0)"), "scale(3)=999", "box(1, 3)=999", "box(1, 4)=6", "scale(2)=OUTSIDE", "scale(1)=999");
         edges.run(Calls.make(Calls.read("b0011;0"), "put(0, 331)"), "scale(3)=999", "box(1, 4)=999", "box(1, 3)=6");
         edges.run(Calls.make(Calls.read("b0011;0"), "put(0, 197)"), "scale(5)=995");
+        edges.run(Calls.make(Calls.read("b0011;0"), "put(900, 900)", "take(1)"), "scale(5)=5", "put(0, 0)=2", "box(1, 3)=2");
+        edges.run(State.CROWDED.make(), "scale(5)=50", "box(7, 4)=45", "scale(5)=250", "scale(4)=OUTSIDE", "scale(3)=750");
         edges.refused("200 down", () -> Calls.make(Calls.read("b0011;0"), "put(0, 198)"), "OUTSIDE", "scale(5)");
         edges.refused("200 to the right", () -> Calls.make(Calls.read("b0011;0"), "put(198, 0)"), "OUTSIDE", "scale(5)");
         edges.refused("500 to the right", () -> Calls.make(Calls.read("b0011,b2233;0"), "put(498, 0)", "take(0)"), "OUTSIDE", "scale(2)", "scale(5)");

@@ -159,6 +159,10 @@ final class PageEdges {
     }
 
     private void promise10() {
+        edges.sentence(10, "(of all that are not BOUND)");
+        edges.same("a caption in the lane, bound", Edges.lanes(Calls.read("f0011,c2233,b6677;0")), "1/1/5 0/1/5");
+        edges.same("a caption in the lane, not bound", Edges.lanes(Calls.read("b0011,c2233,b6677;0")), "1/3/3 0/3/3 1/1/1 0/1/1");
+        edges.same("all but one bound", Edges.lanes(Calls.read("c0011,c4455,f8899;0")), "");
         edges.sentence(10, "(of like ones as CUTS take them)");
         edges.same("level ones first, then by place", Edges.lanes(Calls.read("b6677,b3344,b0011;0")), "1/1/2 1/4/2 0/1/2 0/4/2");
         edges.same("the widest first", Edges.lanes(Calls.read("b0011,b3243,b7485;0")), "0/4/3 0/1/2 1/1/1 1/3/1");

@@ -191,6 +191,12 @@ final class TermEdges {
         edges.page("b2031,b0011;0", "without(0) without(1)=0");
         // Rule 3 reads 1 ahead of 0 while box 2 closes the lane between them; without it 0 is the upper one.
         edges.page("b1021,b0213,b0023;3", "order(0)=1", "order(1)=2", "order(2)=0", "without(2)=2", "without(0) without(1)=0");
+        edges.sentence(0, "how many of all moves of one BOX by 1 to the left, up, to the right, down (four of each) leave the ORDER as it is");
+        // A move by 1 makes the two alike, and then the numbers tell; a move by 2 would turn them.
+        edges.page("b0044,b1044;3", "calm()=8");
+        edges.page("b0044,b0144;2", "calm()=8");
+        edges.page("b1044,b0044;3", "calm()=6");
+        edges.page("b0144,b0044;2", "calm()=6");
         edges.sentence(0, "could be left out (one alone, the others in order) with the ORDER as it is");
         // 2 and 3 tell the same: each of them can be left out, though both together could not.
         edges.page("b1144,b0044;0123", "idle()=15", "rules(23)=2", "idle()=12", "rules(3)=1", "idle()=0");
