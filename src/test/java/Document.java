@@ -32,6 +32,11 @@ final class Document {
         }
     }
 
+    /** The words of a promise, each white space as one blank. */
+    String section(int promise) {
+        return sections[promise];
+    }
+
     boolean quote(int promise, String words) {
         int at = sections[promise].indexOf(words);
         if (at >= 0) {
